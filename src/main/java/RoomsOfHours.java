@@ -23,8 +23,8 @@ public final class RoomsOfHours {
     private int letters;
     private House house = new House();
     private House readHouse = new House();
-    private final Course course = new Course();
-    private final Course otherCourse = new Course();
+    private final Course course = new Course(house);
+    private final Course otherCourse = new Course(house);
     private final Acts acts = new Acts();
     private final Acts keptFirst = new Acts();
     private final Acts keptLast = new Acts();
@@ -574,7 +574,7 @@ public final class RoomsOfHours {
 
         /** The place behind the item, or NONE if it is not so. */
         private int readItem(char[] text, int length, int place) {
-            char letter = text[place];
+            int letter = text[place];
             int wanted = numbersOf(letter);
             int next = place + 1;
             for (int n = 0; n < wanted; n++) {
@@ -592,7 +592,7 @@ public final class RoomsOfHours {
             return addItem(letter) ? next : NONE;
         }
 
-        private static int numbersOf(char letter) {
+        private static int numbersOf(int letter) {
             switch (letter) {
                 case 'r': return 3;
                 case 'd': return 4;
@@ -619,7 +619,7 @@ public final class RoomsOfHours {
             return number;
         }
 
-        private boolean addItem(char letter) {
+        private boolean addItem(int letter) {
             switch (letter) {
                 case 'r': return addRoom(numbers[0], numbers[1], numbers[2]);
                 case 'd': return addDoor(numbers[0], numbers[1], numbers[2], numbers[3]);
@@ -755,6 +755,10 @@ public final class RoomsOfHours {
         final int[] came = new int[MOST_VISITS];
         final int[] left = new int[MOST_VISITS];
         int visits;
+
+        Course(House firstHouse) {
+            house = firstHouse;
+        }
 
         void begin(House newHouse, int newMendedRoom) {
             house = newHouse;
