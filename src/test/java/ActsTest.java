@@ -169,6 +169,7 @@ public final class ActsTest {
         y.go(0, 0);
         Due.due("meet(0, 1, 0): he goes out at 12", y.meet(0, 1, 0), 100012);
         Due.due("meet(0, 1, 1): in two rooms at once, the lowest", y.meet(0, 1, 1), 0);
+        Due.due("meet(1, 0, 1): in two rooms at once, the lowest", y.meet(1, 0, 1), 0);
         RoomsOfHours z = Due.laid("r1,1,0;p0,0;p0,9;");
         Due.due("meet(0, 1, 0) at first", z.meet(0, 1, 0), 100000);
         Due.due("meet(0, 1, 1) at first", z.meet(0, 1, 1), 0);
@@ -217,6 +218,17 @@ public final class ActsTest {
         x.undo();
         Due.due("back() again", x.back(), 0);
         Due.due("person(0, 1)", x.person(0, 1), 100024);
+        x.stay(1, 5);
+        x.take(1, 0);
+        x.keep();
+        x.undo();
+        x.undo();
+        x.undo();
+        x.stay(1, 7);
+        Due.due("back() of acts of two", x.back(), 0);
+        Due.due("person(0, 1)", x.person(0, 1), 100024);
+        Due.due("person(1, 1)", x.person(1, 1), 100030);
+        Due.due("person(1, 3)", x.person(1, 3), 1);
     }
 
     private static void counting() {

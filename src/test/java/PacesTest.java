@@ -159,6 +159,17 @@ public final class PacesTest {
         }
         Due.due("day(10000, 0, 0)", x.day(10000, 0, 0), Due.BAD);
         Due.due("day(9999, 0, 2)", x.day(9999, 0, 2), Due.BAD);
+        RoomsOfHours one = Due.laid("r1,1,0;r1,1,0;d0,1,0,1;p0,0;");
+        int draws = 0;
+        int stays = 0;
+        for (int k = 0; k < 12; k++) {
+            long n = 6151L * k + 1;
+            long draw = n * n % 65521;
+            stays += draw % 3 == 0 ? (int) (draw / 4 % 3 + 1) : 0;
+            draws += draw % 3 == 0 ? 0 : 1;
+        }
+        Due.due("day(0, 0, 0) by one door", one.day(0, 0, 0), 100000 + 12 * stays + 12 * draws + 12 * (draws % 2));
+        Due.due("day(0, 0, 1) by one door", one.day(0, 0, 1), draws % 2);
         RoomsOfHours shut = Due.laid("r1,1,0;p0,0;");
         Due.due("day(0, 0, 1) without doors", shut.day(0, 0, 1), 0);
     }

@@ -38,6 +38,9 @@ public final class WaysTest {
         Due.due("early(0, 1, 8, 0)", z.early(0, 1, 8, 0), 100000);
         Due.due("early(0, 1, 8, 1)", z.early(0, 1, 8, 1), 1);
         Due.due("early(0, 1, 8, 2)", z.early(0, 1, 8, 2), 0);
+        RoomsOfHours alike = Due.laid("r1,1,0;r1,1,0;r1,1,0;r1,1,0;d2,3,0,0;d1,3,0,0;d0,1,0,0;d0,2,0,0;p0,0;");
+        Due.due("early(0, 3, 8, 1) by two ways alike", alike.early(0, 3, 8, 1), 2);
+        Due.due("early(0, 3, 8, 2) by two ways alike", alike.early(0, 3, 8, 2), 2);
         z.stay(0, 2);
         Due.due("early(0, 1, 8, 0) from now on", z.early(0, 1, 8, 0), 100024);
         for (int bad : Due.WRONG) {
@@ -64,6 +67,10 @@ public final class WaysTest {
         Due.due("ring(0): back at the same tick is not lower", level.ring(0), Due.NONE);
         Due.due("ring(1)", level.ring(1), Due.NONE);
         Due.due("ring(2)", level.ring(2), Due.NONE);
+        RoomsOfHours six = Due.laid("r1,1,0;r1,1,0;r1,1,0;r1,1,0;r1,1,0;r1,1,0;"
+                + "d0,1,1,2;d1,2,1,1;d2,3,1,1;d3,4,1,1;d4,5,1,1;d5,0,1,1;p0,0;");
+        Due.due("ring(0) by six rooms", six.ring(0), 6);
+        Due.due("ring(2) by six rooms", six.ring(2), 12);
         RoomsOfHours far = Due.laid("r1,1,0;r1,1,0;r1,1,0;d1,2,1,5;d1,2,0,5;p0,0;");
         Due.due("ring(0) where nobody is", far.ring(0), 2);
         Due.due("ring(1) the lowest", far.ring(1), 1);
@@ -116,6 +123,10 @@ public final class WaysTest {
         RoomsOfHours x = Due.laid("r1,1,0;r1,1,0;d0,1,1,5;p0,0;w0;");
         Due.due("round(0, 1, 0)", x.round(0, 1, 0), 100012 - 60);
         Due.due("round(0, 1, 1)", x.round(0, 1, 1), 0);
+        RoomsOfHours y = Due.laid("r1,1,0;r1,1,0;d0,1,1,5;d1,0,1,5;p0,0;w0;");
+        Due.due("round(0, 0, 0) by ten doors", y.round(0, 0, 0), 100000 - 600);
+        Due.due("round(0, 0, 1) by ten doors", y.round(0, 0, 1), 0);
+        Due.due("round(0, 3, 0) by ten doors", y.round(0, 3, 0), 100000 - 600 + 24);
     }
 
     private static void hour() {
