@@ -1014,7 +1014,7 @@ public final class RoomsOfHours {
         }
     }
 
-    /** Rounds through a set of rooms, an hour in each. */
+    /** Rounds through a set of rooms, an hour in each; a round is done when the last of these hours is over. */
     private static final class Tour {
         /** The lowest tick by the rooms stayed in (as bits) and the room where one is. */
         int[] ticks = new int[MOST_ROOMS << MOST_ROOMS];
@@ -1026,20 +1026,23 @@ public final class RoomsOfHours {
             soonest = NEVER;
             fewest = NONE;
             Arrays.fill(ticks, NEVER);
-            arrive(house, set, ticks, 0, in, tick);
-            note(set, 0);
+            ticks[in] = tick;
+            stayOrNot(house, set);
+            noteDone(house, set, 0);
             for (int k = 1; k <= ROUND_DOORS; k++) {
                 step(house, set);
-                note(set, k);
+                stayOrNot(house, set);
+                noteDone(house, set, k);
             }
         }
 
+        /** Whoever has stayed in all of the set goes no further: he is done, though doors may lead him back. */
         private void step(House house, int set) {
             Arrays.fill(nextTicks, NEVER);
-            for (int stayed = 0; stayed <= set; stayed++) {
+            for (int stayed = 0; stayed < set; stayed++) {
                 for (int r = 0; r < house.rooms; r++) {
                     if (ticks[stayed * MOST_ROOMS + r] != NEVER) {
-                        leave(house, set, stayed, r);
+                        leave(house, stayed, r);
                     }
                 }
             }
@@ -1048,25 +1051,31 @@ public final class RoomsOfHours {
             nextTicks = before;
         }
 
-        private void leave(House house, int set, int stayed, int r) {
+        private void leave(House house, int stayed, int r) {
             int tick = ticks[stayed * MOST_ROOMS + r];
             for (int d = 0; d < house.doors; d++) {
                 if (house.isDoorOf(d, r)) {
-                    arrive(house, set, nextTicks, stayed, house.behind(d, r), tick + house.ticksThrough(d, r));
+                    int at = stayed * MOST_ROOMS + house.behind(d, r);
+                    nextTicks[at] = Math.min(nextTicks[at], tick + house.ticksThrough(d, r));
                 }
             }
         }
 
-        /** Stays at once where it has to be: an hour takes the same ticks whenever one stays. */
-        private static void arrive(House house, int set, int[] row, int stayed, int r, int tick) {
-            boolean stays = ((set & ~stayed) >> r & 1) == 1;
-            int at = (stays ? stayed | 1 << r : stayed) * MOST_ROOMS + r;
-            int then = stays ? tick + house.hourTicks[r] : tick;
-            row[at] = Math.min(row[at], then);
+        /** One may leave a room without the hour, to come there again at a lower tick and be done with it last. */
+        private void stayOrNot(House house, int set) {
+            for (int stayed = 0; stayed < set; stayed++) {
+                for (int r = 0; r < house.rooms; r++) {
+                    int tick = ticks[stayed * MOST_ROOMS + r];
+                    if (tick != NEVER && ((set & ~stayed) >> r & 1) == 1) {
+                        int at = (stayed | 1 << r) * MOST_ROOMS + r;
+                        ticks[at] = Math.min(ticks[at], tick + house.hourTicks[r]);
+                    }
+                }
+            }
         }
 
-        private void note(int set, int doors) {
-            for (int r = 0; r < MOST_ROOMS; r++) {
+        private void noteDone(House house, int set, int doors) {
+            for (int r = 0; r < house.rooms; r++) {
                 int tick = ticks[set * MOST_ROOMS + r];
                 if (tick != NEVER && fewest == NONE) {
                     fewest = doors;

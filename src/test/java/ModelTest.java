@@ -405,7 +405,9 @@ public final class ModelTest {
     }
 
     private void rounds(World w, int r, int tick, int used, int been, int set, int[] best) {
-        if ((set & ~been) == 0) {
+        // The hours take the same ticks wherever on the way they are stayed; the last of them is where the way ends.
+        boolean ends = set == 0 ? used == 0 : (set >> r & 1) == 1;
+        if (ends && (set & ~been) == 0) {
             best[0] = Math.min(best[0], tick);
             best[1] = Math.min(best[1], used);
         }

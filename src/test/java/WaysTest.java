@@ -7,7 +7,8 @@ public final class WaysTest {
         ring();
         even();
         round();
-        roundWalkedOn();
+        roundDoneWithLastHour();
+        roundPassedThrough();
         hour();
         agreed();
         Due.end();
@@ -118,15 +119,33 @@ public final class WaysTest {
         Due.due("round(0, 63, 0)", star.round(0, 63, 0), 100072);
     }
 
-    /** Who has stayed everywhere and goes on by a door that leads back has stayed at that lower tick, too. */
-    private static void roundWalkedOn() {
+    /** A round is done when the last of its hours is over: doors behind that lead to no lower tick. */
+    private static void roundDoneWithLastHour() {
+        RoomsOfHours first = new RoomsOfHours();
+        Due.due("round(0, 2, 0) at first", first.round(0, 2, 0), 100030);
+        Due.due("round(0, 2, 1) at first", first.round(0, 2, 1), 1);
         RoomsOfHours x = Due.laid("r1,1,0;r1,1,0;d0,1,1,5;p0,0;w0;");
-        Due.due("round(0, 1, 0)", x.round(0, 1, 0), 100012 - 60);
+        Due.due("round(0, 1, 0)", x.round(0, 1, 0), 100012);
         Due.due("round(0, 1, 1)", x.round(0, 1, 1), 0);
+        Due.due("round(0, 3, 0)", x.round(0, 3, 0), 100024 - 60);
+        Due.due("round(0, 2, 0)", x.round(0, 2, 0), 100012 - 60);
         RoomsOfHours y = Due.laid("r1,1,0;r1,1,0;d0,1,1,5;d1,0,1,5;p0,0;w0;");
-        Due.due("round(0, 0, 0) by ten doors", y.round(0, 0, 0), 100000 - 600);
-        Due.due("round(0, 0, 1) by ten doors", y.round(0, 0, 1), 0);
-        Due.due("round(0, 3, 0) by ten doors", y.round(0, 3, 0), 100000 - 600 + 24);
+        Due.due("round(0, 0, 0): there is nothing to do", y.round(0, 0, 0), 100000);
+        Due.due("round(0, 0, 1)", y.round(0, 0, 1), 0);
+    }
+
+    /** The last hour may be in a room that he was in before and left without one. */
+    private static void roundPassedThrough() {
+        RoomsOfHours x = Due.laid("r1,1,0;r1,1,0;d0,1,1,5;d1,0,1,5;p0,0;w0;");
+        Due.due("round(0, 1, 0) by ten doors", x.round(0, 1, 0), 100012 - 600);
+        Due.due("round(0, 1, 1) by none", x.round(0, 1, 1), 0);
+        Due.due("round(0, 2, 0) by nine doors", x.round(0, 2, 0), 100012 - 540);
+        Due.due("round(0, 3, 0) by ten doors", x.round(0, 3, 0), 100024 - 600);
+        Due.due("round(0, 3, 1) by one", x.round(0, 3, 1), 1);
+        RoomsOfHours y = Due.laid("r1,1,0;r1,1,0;r4,1,0;d0,1,0,3;d1,2,1,9;d2,0,0,1;p0,0;w0;");
+        // Three ways round lead back by 5 hours each; he would be lower still in room 2, which is none of the set.
+        Due.due("round(0, 3, 0) by nine doors", y.round(0, 3, 0), 100024 - 3 * 60);
+        Due.due("round(0, 7, 0) by eight doors", y.round(0, 7, 0), 100027 - 2 * 60 - 72);
     }
 
     private static void hour() {
