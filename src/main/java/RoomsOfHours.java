@@ -1061,7 +1061,7 @@ public final class RoomsOfHours {
             }
         }
 
-        /** One may leave a room without the hour, to come there again at a lower tick and be done with it last. */
+        /** One may leave a room without the hour, as to come there again for it can be done sooner. */
         private void stayOrNot(House house, int set) {
             for (int stayed = 0; stayed < set; stayed++) {
                 for (int r = 0; r < house.rooms; r++) {
