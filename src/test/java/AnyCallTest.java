@@ -8,34 +8,46 @@ public final class AnyCallTest {
     private static final String LETTERS = "rdptw0123456789,;;,, xR-~";
 
     public static void main(String[] args) {
-        for (int seed = 0; seed < 300; seed++) {
+        for (int seed = 0; seed < 20000; seed++) {
             Random random = new Random(seed);
-            RoomsOfHours x = new RoomsOfHours();
-            for (int n = 0; n < 512; n++) {
-                if (random.nextInt(60) == 0) {
-                    x.wipe();
-                    Due.type(x, someText(random));
-                }
-                step(x, random, seed);
+            String text = someText(random);
+            text = text.substring(0, Math.min(text.length(), 200));
+            int[][] calls = new int[1 + random.nextInt(120)][];
+            for (int n = 0; n < calls.length; n++) {
+                calls[n] = new int[] {random.nextInt(CALLS), someNumber(random), someNumber(random), someNumber(random),
+                    someNumber(random)};
             }
+            compare(text, calls, seed);
         }
         Due.end();
     }
 
-    private static void step(RoomsOfHours x, Random random, int seed) {
-        int which = random.nextInt(CALLS);
-        int a = someNumber(random);
-        int b = someNumber(random);
-        int c = someNumber(random);
-        int d = someNumber(random);
-        int[] before = state(x);
-        int answer = call(x, which, a, b, c, d);
-        String told = "call " + which + " with " + a + ", " + b + ", " + c + ", " + d + " of seed " + seed;
+    /** The last call against none: the calls that make the object and those that ask for its state are 512 at most. */
+    private static void compare(String text, int[][] calls, int seed) {
+        RoomsOfHours before = made(text, calls);
+        RoomsOfHours after = made(text, calls);
+        int[] last = calls[calls.length - 1];
+        int answer = call(after, last);
+        String told = "call " + Arrays.toString(last) + " of seed " + seed;
         Due.due(told + ": an answer that can be", answer >= -4 ? 1 : 0, 1);
-        boolean changing = Arrays.binarySearch(CHANGING, which) >= 0;
+        boolean changing = Arrays.binarySearch(CHANGING, last[0]) >= 0;
         if (answer < 0 || !changing) {
-            Due.due(told + ": nothing changes", Arrays.equals(before, state(x)) ? 1 : 0, 1);
+            Due.due(told + ": nothing changes", Arrays.equals(state(before), state(after)) ? 1 : 0, 1);
         }
+    }
+
+    private static RoomsOfHours made(String text, int[][] calls) {
+        RoomsOfHours x = new RoomsOfHours();
+        Due.type(x, text);
+        x.lay();
+        for (int n = 0; n + 1 < calls.length; n++) {
+            call(x, calls[n]);
+        }
+        return x;
+    }
+
+    private static int call(RoomsOfHours x, int[] told) {
+        return call(x, told[0], told[1], told[2], told[3], told[4]);
     }
 
     private static int call(RoomsOfHours x, int which, int a, int b, int c, int d) {

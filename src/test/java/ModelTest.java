@@ -6,7 +6,11 @@ import java.util.Random;
 public final class ModelTest {
     private static final int FAR = Integer.MAX_VALUE;
     private final Random random;
-    private final RoomsOfHours x = new RoomsOfHours();
+    /** Calls that must still be free when some acts are told. */
+    private static final int CALLS_AT_MOST = 512, SPARE = 40;
+    private RoomsOfHours object = new RoomsOfHours();
+    private int calls;
+    private String text = "";
     private final List<int[]> rooms = new ArrayList<>();
     private final List<int[]> doors = new ArrayList<>();
     private final List<int[]> persons = new ArrayList<>();
@@ -150,34 +154,65 @@ public final class ModelTest {
         return random.nextInt(bound);
     }
 
+    /** An object is used for 512 calls at most: behind that, another one to which the same has been told. */
+    private RoomsOfHours x() {
+        if (calls >= CALLS_AT_MOST - SPARE) {
+            renew();
+        }
+        return toChange();
+    }
+
+    /** For calls that the model has done already: never a new object, to which they would have been told. */
+    private RoomsOfHours toChange() {
+        calls++;
+        return object;
+    }
+
+    private void renew() {
+        object = new RoomsOfHours();
+        Due.type(object, text);
+        object.lay();
+        for (int[] act : acts) {
+            act(object, act[0], act[1], act[2]);
+        }
+        for (int[] sight : sights) {
+            object.seen(sight[0], sight[1], sight[2]);
+        }
+        calls = text.length() + 1 + acts.size() + sights.size();
+    }
+
+    private static int act(RoomsOfHours x, int kind, int i, int with) {
+        return kind == 0 ? x.stay(i, with) : kind == 1 ? x.go(i, with) : kind == 2 ? x.take(i, with) : x.put(i, with);
+    }
+
     private void build() {
-        StringBuilder text = new StringBuilder();
+        StringBuilder told = new StringBuilder();
         int howMany = 1 + below(6);
         for (int n = 0; n < howMany; n++) {
-            add(rooms, text, 'r', 1 + below(4), 1 + below(4), below(24));
+            add(rooms, told, 'r', 1 + below(4), 1 + below(4), below(24));
         }
         // Fewer doors than there may be where there are few rooms: the model tries all ways.
         int howManyDoors = howMany == 1 ? 0 : below(howMany == 2 ? 4 : howMany < 5 ? 5 : 8);
         for (int n = 0; n < howManyDoors; n++) {
             int a = below(howMany);
             int hours = random.nextBoolean() ? below(4) : below(25);
-            add(doors, text, 'd', a, (a + 1 + below(howMany - 1)) % howMany, below(2), hours);
+            add(doors, told, 'd', a, (a + 1 + below(howMany - 1)) % howMany, below(2), hours);
         }
         int howManyPersons = 1 + below(4);
         for (int n = 0; n < howManyPersons; n++) {
-            add(persons, text, 'p', below(howMany), below(100));
+            add(persons, told, 'p', below(howMany), below(100));
         }
         int howManyThings = below(6);
         for (int n = 0; n < howManyThings; n++) {
-            add(things, text, 't', below(howMany), below(4), 1 + below(random.nextBoolean() ? 9 : 99));
+            add(things, told, 't', below(howMany), below(4), 1 + below(random.nextBoolean() ? 9 : 99));
         }
         if (random.nextBoolean()) {
             crossing = below(4);
-            text.append('w').append(crossing).append(';');
+            told.append('w').append(crossing).append(';');
         }
-        x.wipe();
-        Due.type(x, text.toString());
-        Due.due("lay() of " + text, x.lay(), howMany);
+        text = told.toString();
+        renew();
+        Due.due("count(0) of " + text, x().count(0), howMany);
     }
 
     private static void add(List<int[]> list, StringBuilder text, char letter, int... numbers) {
@@ -189,6 +224,7 @@ public final class ModelTest {
     }
 
     private void actSome(int howMany) {
+        Due.due("count(4)", x().count(4), acts.size());
         for (int n = 0; n < howMany; n++) {
             int kind = below(5) % 4;
             int i = below(persons.size());
@@ -207,11 +243,10 @@ public final class ModelTest {
                 has += after.holder[t] == i ? 1 : 0;
             }
             int due = !can ? Due.NO : kind < 2 ? 100000 + after.tick[i] : has;
-            int got = kind == 0 ? x.stay(i, with) : kind == 1 ? x.go(i, with) : kind == 2 ? x.take(i, with) : x.put(i, with);
-            Due.due("act " + kind + ", " + i + ", " + with, got, due);
+            Due.due("act " + kind + ", " + i + ", " + with, act(toChange(), kind, i, with), due);
             if (below(8) == 0 && !acts.isEmpty()) {
                 acts.remove(acts.size() - 1);
-                Due.due("undo()", x.undo(), acts.size());
+                Due.due("undo()", toChange().undo(), acts.size());
             }
         }
     }
@@ -231,34 +266,34 @@ public final class ModelTest {
 
     private void comparePersons(World w, String of) {
         for (int i = 0; i < persons.size(); i++) {
-            Due.due("person(" + i + ", 0)" + of, x.person(i, 0), w.in[i]);
-            Due.due("person(" + i + ", 1)" + of, x.person(i, 1), 100000 + w.tick[i]);
-            Due.due("person(" + i + ", 2)" + of, x.person(i, 2), w.age[i]);
+            Due.due("person(" + i + ", 0)" + of, x().person(i, 0), w.in[i]);
+            Due.due("person(" + i + ", 1)" + of, x().person(i, 1), 100000 + w.tick[i]);
+            Due.due("person(" + i + ", 2)" + of, x().person(i, 2), w.age[i]);
             int bits = 0;
             for (int t = 0; t < things.size(); t++) {
                 bits += w.holder[t] == i ? 1 << t : 0;
             }
-            Due.due("person(" + i + ", 3)" + of, x.person(i, 3), bits);
+            Due.due("person(" + i + ", 3)" + of, x().person(i, 3), bits);
             int visits = 0;
             for (int[] visit : w.visits) {
                 visits += visit[0] == i ? 1 : 0;
             }
-            Due.due("person(" + i + ", 4)" + of, x.person(i, 4), visits);
+            Due.due("person(" + i + ", 4)" + of, x().person(i, 4), visits);
         }
     }
 
     private void compareThings(World w, String of) {
         for (int t = 0; t < things.size(); t++) {
             boolean had = w.holder[t] >= 0;
-            Due.due("thing(" + t + ", 2)" + of, x.thing(t, 2), had ? Due.NONE : w.lies[t]);
-            Due.due("thing(" + t + ", 3)" + of, x.thing(t, 3), had ? w.holder[t] : Due.NONE);
-            Due.due("thing(" + t + ", 4)" + of, x.thing(t, 4), had ? Due.NONE : 100000 + w.since[t]);
-            Due.due("thing(" + t + ", 5)" + of, x.thing(t, 5), w.worn[t] / 144);
+            Due.due("thing(" + t + ", 2)" + of, x().thing(t, 2), had ? Due.NONE : w.lies[t]);
+            Due.due("thing(" + t + ", 3)" + of, x().thing(t, 3), had ? w.holder[t] : Due.NONE);
+            Due.due("thing(" + t + ", 4)" + of, x().thing(t, 4), had ? Due.NONE : 100000 + w.since[t]);
+            Due.due("thing(" + t + ", 5)" + of, x().thing(t, 5), w.worn[t] / 144);
             for (int n = 0; n < 5; n++) {
                 int at = n == 0 ? w.since[t] : w.since[t] - 20 + below(1000);
                 if (at >= -9999 && at <= 9999) {
                     int due = had || at < w.since[t] ? Due.NO : w.worth(t, w.wornAt(t, at));
-                    Due.due("worth(" + t + ", " + at + ")" + of, x.worth(t, at), due);
+                    Due.due("worth(" + t + ", " + at + ")" + of, x().worth(t, at), due);
                 }
             }
             int hours = 1 + below(below(2) == 0 ? 12 : 99);
@@ -266,7 +301,7 @@ public final class ModelTest {
             for (int r = 1; r < rooms.size(); r++) {
                 best = w.worth(t, kept(w, t, r, hours)) > w.worth(t, kept(w, t, best, hours)) ? r : best;
             }
-            Due.due("shelf(" + t + ", " + hours + ")" + of, x.shelf(t, hours), best);
+            Due.due("shelf(" + t + ", " + hours + ")" + of, x().shelf(t, hours), best);
         }
     }
 
@@ -295,8 +330,8 @@ public final class ModelTest {
                         }
                     }
                 }
-                Due.due("meet(" + i + ", " + j + ", 0)" + of, x.meet(i, j, 0), tick);
-                Due.due("meet(" + i + ", " + j + ", 1)" + of, x.meet(i, j, 1), room);
+                Due.due("meet(" + i + ", " + j + ", 0)" + of, x().meet(i, j, 0), tick);
+                Due.due("meet(" + i + ", " + j + ", 1)" + of, x().meet(i, j, 1), room);
             }
         }
     }
@@ -345,9 +380,9 @@ public final class ModelTest {
                         best = n;
                     }
                     String call = "early(" + i + ", " + r + ", " + n + ", ";
-                    Due.due(call + "0)" + of, x.early(i, r, n, 0), best < 0 ? Due.NONE : 100000 + lowest[best][r]);
-                    Due.due(call + "1)" + of, x.early(i, r, n, 1), best < 0 ? Due.NONE : best);
-                    Due.due(call + "2)" + of, x.early(i, r, n, 2), best < 0 ? Due.NONE : firsts[best][r]);
+                    Due.due(call + "0)" + of, x().early(i, r, n, 0), best < 0 ? Due.NONE : 100000 + lowest[best][r]);
+                    Due.due(call + "1)" + of, x().early(i, r, n, 1), best < 0 ? Due.NONE : best);
+                    Due.due(call + "2)" + of, x().early(i, r, n, 2), best < 0 ? Due.NONE : firsts[best][r]);
                 }
             }
         }
@@ -367,10 +402,10 @@ public final class ModelTest {
             }
             even &= evenFrom(r, r, 0, 6);
         }
-        Due.due("ring(0)" + of, x.ring(0), fewest);
-        Due.due("ring(1)" + of, x.ring(1), room);
-        Due.due("ring(2)" + of, x.ring(2), lower);
-        Due.due("even()" + of, x.even(), even ? 1 : 0);
+        Due.due("ring(0)" + of, x().ring(0), fewest);
+        Due.due("ring(1)" + of, x().ring(1), room);
+        Due.due("ring(2)" + of, x().ring(2), lower);
+        Due.due("even()" + of, x().even(), even ? 1 : 0);
     }
 
     /** Ways round that pass a room twice are put together from such as do not, of as many doors as rooms at most. */
@@ -400,8 +435,8 @@ public final class ModelTest {
             hours += (set >> r & 1) * w.hour[r];
         }
         int tick = best[1] == FAR ? Due.NONE : 100000 + w.tick[i] + hours + best[0];
-        Due.due("round(" + i + ", " + set + ", 0)" + of, x.round(i, set, 0), tick);
-        Due.due("round(" + i + ", " + set + ", 1)" + of, x.round(i, set, 1), best[1] == FAR ? Due.NONE : best[1]);
+        Due.due("round(" + i + ", " + set + ", 0)" + of, x().round(i, set, 0), tick);
+        Due.due("round(" + i + ", " + set + ", 1)" + of, x().round(i, set, 1), best[1] == FAR ? Due.NONE : best[1]);
     }
 
     private void rounds(World w, int r, int tick, int used, int been, int set, int[] best) {
@@ -432,7 +467,7 @@ public final class ModelTest {
                 due[2] = due[2] == FAR && own % (24 * 144) == 144 * h ? at : due[2];
             }
             for (int whose = 0; whose < 3; whose++) {
-                Due.due("hour(" + i + ", " + h + ", " + whose + ")" + of, x.hour(i, h, whose), 100000 + due[whose]);
+                Due.due("hour(" + i + ", " + h + ", " + whose + ")" + of, x().hour(i, h, whose), 100000 + due[whose]);
             }
             int j = below(persons.size());
             int agreed = i == j ? Due.BAD : Due.NONE;
@@ -443,20 +478,20 @@ public final class ModelTest {
                     agreed = 100000 + at;
                 }
             }
-            Due.due("agreed(" + i + ", " + j + ", " + h + ")" + of, x.agreed(i, j, h), agreed);
+            Due.due("agreed(" + i + ", " + j + ", " + h + ")" + of, x().agreed(i, j, h), agreed);
         }
     }
 
     private void comparePaces(String of) {
         int r = below(rooms.size());
         if (below(4) == 0) {
-            Due.due("forget()" + of, x.forget(), sights.size());
+            Due.due("forget()" + of, toChange().forget(), sights.size());
             sights.clear();
         } else {
             int t = 1 + below(12);
             int c = t * rooms.get(r)[0] / rooms.get(r)[1] + (below(9) == 0 ? 1 : 0);
             sights.add(new int[] {r, t, c});
-            Due.due("seen(" + r + ", " + t + ", " + c + ")" + of, x.seen(r, t, c), sights.size());
+            Due.due("seen(" + r + ", " + t + ", " + c + ")" + of, toChange().seen(r, t, c), sights.size());
         }
         List<int[]> still = new ArrayList<>();
         int bits = 0;
@@ -472,7 +507,7 @@ public final class ModelTest {
                 }
             }
         }
-        Due.due("paces(" + r + ")" + of, x.paces(r), bits);
+        Due.due("paces(" + r + ")" + of, x().paces(r), bits);
         int best = Due.NONE;
         int fewest = Due.NONE;
         for (int t = 1; t <= 24 && !still.isEmpty(); t++) {
@@ -486,8 +521,8 @@ public final class ModelTest {
                 fewest = worst;
             }
         }
-        Due.due("look(" + r + ", 0)" + of, x.look(r, 0), best);
-        Due.due("look(" + r + ", 1)" + of, x.look(r, 1), fewest);
+        Due.due("look(" + r + ", 0)" + of, x().look(r, 0), best);
+        Due.due("look(" + r + ", 1)" + of, x().look(r, 1), fewest);
     }
 
     private void compareMended(World w, String of) {
@@ -497,7 +532,7 @@ public final class ModelTest {
             for (int i = 0; i < persons.size(); i++) {
                 bits |= other.tick[i] != w.tick[i] ? 1 << i : 0;
             }
-            Due.due("mended(" + r + ")" + of, x.mended(r), bits);
+            Due.due("mended(" + r + ")" + of, x().mended(r), bits);
         }
         int z = below(10000);
         int i = below(persons.size());
@@ -511,7 +546,7 @@ public final class ModelTest {
                 then.act(1, i, draw / 8 % doors.size());
             }
         }
-        Due.due("day(" + z + ", " + i + ", 0)" + of, x.day(z, i, 0), 100000 + then.tick[i]);
-        Due.due("day(" + z + ", " + i + ", 1)" + of, x.day(z, i, 1), then.in[i]);
+        Due.due("day(" + z + ", " + i + ", 0)" + of, x().day(z, i, 0), 100000 + then.tick[i]);
+        Due.due("day(" + z + ", " + i + ", 1)" + of, x().day(z, i, 1), then.in[i]);
     }
 }
