@@ -33,6 +33,7 @@ public final class ActEdgesTest {
         meetEdges();
         keepAtMost();
         backAsKeptLast();
+        keptActsAlone();
         keptFull();
         countEdges();
         Due.end();
@@ -598,6 +599,27 @@ public final class ActEdgesTest {
         Due.due("person(0, 3)", x.person(0, 3), 0);
         Due.due("undo()", x.undo(), 0);
         Due.due("undo()", x.undo(), Due.NO);
+    }
+
+    private static void keptActsAlone() {
+        Due.sentence("KEPT are all ACTS: nothing SEEN or written");
+        RoomsOfHours x = new RoomsOfHours();
+        x.stay(0, 1);
+        x.seen(0, 1, 1);
+        x.write('r');
+        x.keep();
+        x.seen(0, 1, 1);
+        x.write('r');
+        x.stay(0, 1);
+        int[] kept = {3, 3, 2, 2, 2, 2, 1, 2, 1};
+        for (int what = 0; what < kept.length; what++) {
+            Due.due("count(" + what + ") behind keep()", x.count(what), kept[what]);
+        }
+        x.back();
+        int[] had = {3, 3, 2, 2, 1, 2, 0, 2, 1};
+        for (int what = 0; what < had.length; what++) {
+            Due.due("count(" + what + ") behind back()", x.count(what), had[what]);
+        }
     }
 
     private static void keptFull() {

@@ -28,6 +28,7 @@ public final class HouseEdgesTest {
         worthFarTicks();
         olderByHoursOfTheRoom();
         olderByHisOwnHours();
+        olderByParts();
         Due.end();
     }
 
@@ -429,5 +430,41 @@ public final class HouseEdgesTest {
         x.stay(0, 1);
         Due.due("thing(0, 5)", x.thing(0, 5), 28);
         Due.due("thing(1, 5): that which lies there is as it was", x.thing(1, 5), 0);
+        RoomsOfHours all = Due.laid("r1,1,0;p0,0;" + "t0,1,99;".repeat(5));
+        for (int t = 0; t < 5; t++) {
+            all.take(0, t);
+        }
+        all.stay(0, 24);
+        for (int t = 0; t < 5; t++) {
+            Due.due("thing(" + t + ", 5) of five that he has", all.thing(t, 5), 24);
+        }
+    }
+
+    private static void olderByParts() {
+        Due.sentence("by how many hours old it is (cut): parts of hours come together");
+        // An hour of room 0 is 36 ticks, of room 1 it is 48; of rooms 2 and 3, to come from, it is 4 and 3.
+        String text = "r1,3,0;r1,4,0;r3,1,0;r4,1,0;d0,1,0,0;d2,0,0,0;d3,0,0,0;p2,0;p3,0;t0,1,9;t0,3,1;w0;";
+        RoomsOfHours x = Due.laid(text);
+        x.stay(0, 2);
+        x.go(0, 1);
+        x.take(0, 0);
+        x.take(0, 1);
+        x.go(0, 0);
+        x.put(0, 0);
+        x.put(0, 1);
+        // 8 by 36 and 37 by 48 are 143 by 144.
+        Due.due("worth(0, 45)", x.worth(0, 45), 9);
+        Due.due("worth(1, 45)", x.worth(1, 45), 1);
+        Due.due("worth(0, 46)", x.worth(0, 46), 8);
+        Due.due("worth(1, 46)", x.worth(1, 46), 0);
+        RoomsOfHours whole = Due.laid(text);
+        whole.stay(1, 1);
+        whole.go(1, 2);
+        whole.take(1, 0);
+        whole.go(1, 0);
+        whole.put(1, 0);
+        // 3 by 36 and 44 by 48 are just an hour.
+        Due.due("worth(0, 46)", whole.worth(0, 46), 9);
+        Due.due("worth(0, 47)", whole.worth(0, 47), 8);
     }
 }

@@ -34,12 +34,31 @@ public final class LanguageTest {
             }
         }
         Due.due("public methods", face.size(), 32);
+        Due.due("public constructors", RoomsOfHours.class.getConstructors().length, 1);
+        Due.due("constructors", RoomsOfHours.class.getDeclaredConstructors().length, 1);
+        Due.due("is final", Modifier.isFinal(RoomsOfHours.class.getModifiers()) ? 1 : 0, 1);
+        Due.due("some twelve classes at most", RoomsOfHours.class.getDeclaredClasses().length < 12 ? 1 : 0, 1);
+        checkMethodLengths(source);
         checkClass(RoomsOfHours.class, face, true);
         for (Class<?> inner : RoomsOfHours.class.getDeclaredClasses()) {
             Due.due(inner + " is static", Modifier.isStatic(inner.getModifiers()) ? 1 : 0, 1);
             checkClass(inner, face, false);
         }
         Due.end();
+    }
+
+    private static void checkMethodLengths(String source) {
+        String[] lines = source.split("\n");
+        Pattern head = Pattern.compile("( +)[^/* ].*\\) \\{");
+        for (int n = 0; n < lines.length; n++) {
+            Matcher method = head.matcher(lines[n]);
+            boolean is = method.matches() && !lines[n].matches(" +(if|for|while|switch|\\}).*");
+            int end = n;
+            while (is && end + 1 < lines.length && !lines[end].equals(method.group(1) + "}")) {
+                end++;
+            }
+            Due.due("line " + (n + 1) + " begins a method of some sixty lines at most", end - n < 60 ? 1 : 0, 1);
+        }
     }
 
     private static void checkClass(Class<?> type, Set<String> face, boolean outer) {

@@ -173,6 +173,16 @@ public final class PaceEdgesTest {
         Due.due("seen(0, 1, 4) behind it", x.seen(0, 1, 4), 1);
         Due.due("paces(0)", x.paces(0), 1 << 12);
         Due.due("paces(1)", x.paces(1), 65535);
+        Due.sentence("SEEN and forgotten: no ACTS, nothing KEPT or written");
+        x.stay(0, 1);
+        x.keep();
+        x.write('r');
+        x.seen(0, 1, 4);
+        Due.due("forget() of two", x.forget(), 2);
+        int[] counts = {3, 3, 2, 2, 1, 0, 1, 1, 1};
+        for (int what = 0; what < counts.length; what++) {
+            Due.due("count(" + what + ") behind forget()", x.count(what), counts[what]);
+        }
     }
 
     private static int bits(int... pace) {

@@ -12,6 +12,7 @@ public final class WayEdgesTest {
         earlyLowestFirst();
         earlyFromNowOn();
         earlyNone();
+        allEightDoors();
         ringEdges();
         ringLower();
         ringDoors();
@@ -141,6 +142,37 @@ public final class WayEdgesTest {
         early(x, 1, 8, Due.NONE, Due.NONE, Due.NONE);
         early(x, 2, 8, 100000, 0, Due.NONE);
         Due.due("early(1, 2, 8, 0)", x.early(1, 2, 8, 0), Due.NONE);
+        // Where he cannot come, however far the doors there lead back.
+        RoomsOfHours back = Due.laid("r1,1,0;r1,1,0;r1,1,0;d1,2,1,24;d2,1,1,24;p0,0;w0;");
+        early(back, 0, 8, 100000, 0, Due.NONE);
+        early(back, 1, 8, Due.NONE, Due.NONE, Due.NONE);
+        early(back, 2, 8, Due.NONE, Due.NONE, Due.NONE);
+    }
+
+    private static void allEightDoors() {
+        Due.sentence("DOORS: 8 at most, all of which lead somewhere");
+        RoomsOfHours x = Due.laid("r1,1,0;".repeat(6) + "d0,1,0,0;d1,2,0,0;d2,3,0,0;d3,4,0,0;d0,4,0,9;d0,4,0,8;d0,4,0,7;d4,5,0,1;p0,0;");
+        early(x, 5, 2, 100000 + 12 + 84 + 12 + 12, 2, 6);
+        early(x, 5, 5, 100000 + 5 * 12 + 12, 5, 0);
+        // Five doors round, by which he comes back 4 hours sooner, and five there.
+        round(x, 32, 100000 - 48 + 5 * 12 + 12 + 12, 2);
+        Due.due("ring(0)", x.ring(0), 5);
+        Due.due("even()", x.even(), 0);
+        RoomsOfHours last = Due.laid("r1,1,0;r1,1,0;" + "d0,1,0,2;".repeat(7) + "d0,1,0,1;p0,0;w0;");
+        early(last, 1, 1, 100012, 1, 7);
+        Due.due("ring(2)", last.ring(2), 12);
+        Due.due("even()", last.even(), 0);
+        Due.sentence("DOORS of the house before are none");
+        last.wipe();
+        Due.type(last, "r1,1,0;r1,1,0;d0,1,0,2;p0,0;");
+        last.lay();
+        last.wipe();
+        Due.type(last, "r1,1,0;r1,1,0;p0,0;");
+        last.lay();
+        early(last, 1, 8, Due.NONE, Due.NONE, Due.NONE);
+        Due.due("ring(0)", last.ring(0), Due.NONE);
+        Due.due("even()", last.even(), 1);
+        round(last, 2, Due.NONE, Due.NONE);
     }
 
     // ---- ring and even
@@ -225,6 +257,10 @@ public final class WayEdgesTest {
         Due.sentence("EVEN: whether all ways from each ROOM back to it come to 0");
         even("r1,1,0;r1,1,0;d0,1,0,24;p0,0;", 1);
         even("r1,1,0;r1,1,0;d0,1,0,1;d0,1,0,1;p0,0;", 1);
+        even("r1,1,0;r1,1,0;d1,0,0,1;d1,0,0,1;p0,0;", 1);
+        even("r1,1,0;r1,1,0;d1,0,0,1;d1,0,0,2;p0,0;", 0);
+        even("r1,1,0;r1,1,0;r1,1,0;d1,2,0,5;d0,1,0,0;d0,2,0,0;p0,0;", 0);
+        even("r1,1,0;r1,1,0;r1,1,0;d1,2,0,5;d0,1,0,0;d0,2,0,5;p0,0;", 1);
         even("r1,1,0;r1,1,0;d0,1,0,1;d0,1,0,2;p0,0;", 0);
         even("r1,1,0;r1,1,0;d0,1,0,1;d1,0,1,1;p0,0;", 1);
         even("r1,1,0;r1,1,0;d0,1,0,1;d1,0,0,1;p0,0;", 0);
@@ -352,6 +388,12 @@ public final class WayEdgesTest {
         round(alone, 1, Due.NONE, Due.NONE);
         round(alone, 2, 100012, 0);
         round(alone, 3, Due.NONE, Due.NONE);
+        // Where he cannot come, however far the doors there lead back.
+        RoomsOfHours back = Due.laid("r1,1,0;r1,1,0;r1,1,0;d1,2,1,24;d2,1,1,24;p0,0;w0;");
+        round(back, 1, 100012, 0);
+        for (int set = 2; set < 8; set++) {
+            round(back, set, Due.NONE, Due.NONE);
+        }
     }
 
     // ---- hours
