@@ -7,6 +7,7 @@ public final class ToldTest {
     public static void main(String[] args) {
         constants();
         belowZero();
+        justBelowZero();
         dayBelowZero();
         aboveZero();
         ofNone();
@@ -60,6 +61,49 @@ public final class ToldTest {
         Due.due("early(0, 0, 8, 0)", lowest.early(0, 0, 8, 0), 88480 - 8 * 288);
         Due.due("round(0, 1, 0)", lowest.round(0, 1, 0), 88480 - 10 * 288 + 12);
         Due.due("hour(0, 0, 0)", lowest.hour(0, 0, 0), 88480);
+    }
+
+    /** TICKS -1 to -4 bear the numbers of BAD, NO, FULL and NONE, but are none of them. */
+    private static void justBelowZero() {
+        Due.sentence("TICKS may be below 0: -1 to -4 too, which are not BAD, NO, FULL, NONE");
+        for (int tick = -1; tick >= -4; tick--) {
+            // Hours of 4 ticks in room 0 and of 3 in room 1, 12 ticks back: how often he stays to be at that tick.
+            int stays = tick == -1 || tick == -4 ? 2 : tick == -2 ? 1 : 0;
+            int staysThere = (12 + tick - 4 * stays) / 3;
+            RoomsOfHours x = Due.laid("r3,1,0;r4,1,0;d0,1,1,1;p0,0;p0,0;t0,1,9;w0;");
+            x.take(0, 0);
+            for (int i = 0; i < 2; i++) {
+                for (int n = 0; n < stays; n++) {
+                    x.stay(i, 1);
+                }
+                x.go(i, 0);
+                for (int n = 0; n < staysThere; n++) {
+                    x.stay(i, 1);
+                }
+            }
+            String at = " at " + tick;
+            int old = stays + staysThere;
+            Due.due("person(0, 1)" + at, x.person(0, 1), 100000 + tick);
+            Due.due("put(0, 0)" + at, x.put(0, 0), 0);
+            Due.due("thing(0, 4)" + at, x.thing(0, 4), 100000 + tick);
+            Due.due("worth(0, " + tick + ")", x.worth(0, tick), 9 - old);
+            Due.due("worth(0, " + (tick - 1) + ")", x.worth(0, tick - 1), Due.NO);
+            Due.due("early(0, 1, 8, 0)" + at, x.early(0, 1, 8, 0), 100000 + tick);
+            Due.due("early(0, 0, 8, 0)" + at, x.early(0, 0, 8, 0), 100012 + tick);
+            Due.due("round(0, 0, 0)" + at, x.round(0, 0, 0), 100000 + tick);
+            Due.due("round(0, 2, 0)" + at, x.round(0, 2, 0), 100003 + tick);
+            Due.due("round(0, 2, 1)" + at, x.round(0, 2, 1), 0);
+            // Into room 0 and back, the hour of room 1 being the last.
+            Due.due("round(0, 3, 0)" + at, x.round(0, 3, 0), 100007 + tick);
+            Due.due("round(0, 3, 1)" + at, x.round(0, 3, 1), 1);
+            Due.due("hour(0, " + old + ", 2)" + at, x.hour(0, old, 2), 100000 + tick);
+            Due.due("agreed(0, 1, " + old + ")" + at, x.agreed(0, 1, old), 100000 + tick);
+            Due.due("take(1, 0)" + at, x.take(1, 0), 1);
+            x.go(1, 0);
+            x.go(1, 0);
+            Due.due("meet(1, 1, 0)" + at + ": back at the tick at which he went", x.meet(1, 1, 0), 100000 + tick);
+            Due.due("ring(0)", x.ring(0), Due.NONE);
+        }
     }
 
     private static void dayBelowZero() {

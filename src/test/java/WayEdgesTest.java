@@ -20,6 +20,7 @@ public final class WayEdgesTest {
         ringAtTheMost();
         ringNone();
         evenEdges();
+        evenByTwoDoors();
         roundEdges();
         roundEmptySet();
         roundAllRooms();
@@ -277,6 +278,26 @@ public final class WayEdgesTest {
         Due.sentence("EVEN: hours of DOORS alone being counted");
         even("r1,4,0;r4,1,0;d0,1,0,3;d0,1,0,3;p0,0;w3;", 1);
         even("r4,1,0;r4,3,0;d0,1,0,0;d0,1,0,1;p0,0;", 0);
+    }
+
+    /** Two doors lead round just if they are between the same two rooms. */
+    private static void evenByTwoDoors() {
+        Due.sentence("EVEN: a way back that is the way there comes to 0");
+        for (int n = 0; n < 4 * 4 * 4 * 4; n++) {
+            int a = n & 3;
+            int b = n >> 2 & 3;
+            int c = n >> 4 & 3;
+            int d = n >> 6 & 3;
+            if (a == b || c == d) {
+                continue;
+            }
+            String rooms = "r1,1,0;r1,1,0;r1,1,0;r1,1,0;";
+            String doors = "d" + a + "," + b + ",0,1;d" + c + "," + d + ",0,2;p0,0;";
+            boolean round = (a == c && b == d) || (a == d && b == c);
+            even(rooms + doors, round ? 0 : 1);
+            String alike = "d" + a + "," + b + ",0,2;d" + c + "," + d + ",0,2;p0,0;";
+            even(rooms + alike, a == d && b == c ? 0 : 1);
+        }
     }
 
     // ---- round
