@@ -40,7 +40,7 @@ public final class ToldTest {
         RoomsOfHours x = low();
         Due.due("person(0, 1)", x.person(0, 1), 99712);
         Due.due("thing(0, 4)", x.thing(0, 4), 99712);
-        Due.due("meet(0, 1, 0), at 0 first in room 0", x.meet(0, 1, 0), 99712);
+        Due.due("meet(0, 1, 0): lower than at 0 in room 0", x.meet(0, 1, 0), 99712);
         Due.due("early(0, 1, 8, 0)", x.early(0, 1, 8, 0), 99712);
         Due.due("round(0, 2, 0)", x.round(0, 2, 0), 99724);
         Due.due("hour(0, 23, 0)", x.hour(0, 23, 0), 99988);

@@ -97,12 +97,12 @@ public final class WayEdgesTest {
         // To room 2 at TICK 24 by one door, and by two.
         RoomsOfHours same = Due.laid("r1,1,0;r1,1,0;r1,1,0;d0,1,0,0;d1,2,0,0;d0,2,0,1;p0,0;");
         early(same, 2, 8, 100024, 1, 2);
-        // A tick sooner by two: 3 and 8 ticks, against 12.
+        // Sooner by two: 3 and 8 ticks, against 3 and 12.
         RoomsOfHours sooner = Due.laid("r4,1,0;r3,2,0;r1,1,0;d0,1,0,0;d1,2,0,0;d0,2,0,1;p0,0;");
         early(sooner, 2, 1, 100015, 1, 2);
         early(sooner, 2, 2, 100011, 2, 0);
-        // A tick later by two: 4 and 12 ticks, against 3 and 12.
-        RoomsOfHours later = Due.laid("r4,1,0;r1,1,0;r1,1,0;d0,1,0,0;d1,2,0,0;d0,2,0,1;p0,0;");
+        // Later by two: 3 and 16 ticks, against 3 and 12.
+        RoomsOfHours later = Due.laid("r4,1,0;r3,4,0;r1,1,0;d0,1,0,0;d1,2,0,0;d0,2,0,1;p0,0;");
         early(later, 2, 8, 100015, 1, 2);
     }
 
